@@ -1,5 +1,3 @@
-import java.lang.reflect.Method;
-import java.lang.reflect.Modifier;
 import java.util.ArrayList;
 import java.util.List;
 import java.util.Random;
@@ -15,6 +13,15 @@ public final class RandomRunsTest {
         "measure", "drop", "counts", "feed", "standard", "low", "stretch", "points", "point", "flowAt", "under",
         "flowOf", "base", "breaks", "shift", "put", "judge", "beside", "gap", "peak", "often", "agree", "next",
         "publish", "published", "mend", "limit", "count"};
+    private static final int GO = 0;
+    private static final int POST = 1;
+    private static final int HEIGHT = 4;
+    private static final int MEASURE = 8;
+    private static final int FEED = 11;
+    private static final int STANDARD = 12;
+    private static final int BASE = 20;
+    private static final int PUT = 23;
+    private static final int JUDGE = 24;
 
     private final Random random;
     private final RiverGauge real = new RiverGauge();
@@ -26,6 +33,10 @@ public final class RandomRunsTest {
     private final int posts;
     private final int edgy;
     private final int[] weights = new int[NAMES.length];
+    private final List<Integer> times = new ArrayList<>();
+    // With a bed, FLOWS are near the base of their POST, so that some SHIFTS go.
+    private final boolean bed;
+    private final int standards;
     private boolean fits = true;
 
     private RandomRunsTest(long seed) {
@@ -33,12 +44,19 @@ public final class RandomRunsTest {
         span = pick(20, 60, 250, 1200, 9999);
         levels = pick(5, 40, 200, 2000, 9999);
         flowTop = pick(6, 100, 2000, 99999);
-        posts = 1 + random.nextInt(6);
+        posts = pick(1, 1, 2, 2, 3, 6);
         edgy = pick(0, 2, 10, 50);
-        for (int i = 0; i < weights.length; i++) weights[i] = 1 + random.nextInt(4);
-        for (int often : new int[] {4, 8}) weights[often] += pick(5, 20, 40);
-        for (int some : new int[] {16, 19, 21, 22, 26, 27, 29, 31, 20}) weights[some] += random.nextInt(5);
-        weights[0] = pick(1, 1, 2, 6);
+        weigh(10 + random.nextInt(30), NAMES);
+        weigh(pick(2, 10), "go", "post", "strike", "drop", "stretch", "low", "feed", "base", "standard");
+        weigh(pick(50, 200, 400), "height", "measure");
+        weigh(10 + random.nextInt(60), "flowOf", "breaks", "shift", "judge", "gap", "peak", "agree", "publish", "mend");
+        bed = random.nextInt(3) == 0;
+        standards = pick(10, 50, 300);
+        if (bed) weigh(1, "measure", "base", "height", "put", "strike");
+    }
+
+    private void weigh(int weight, String... names) {
+        for (String name : names) weights[List.of(NAMES).indexOf(name)] = weight;
     }
 
     private int pick(int... all) {
@@ -62,12 +80,45 @@ public final class RandomRunsTest {
     }
 
     private void play() {
-        for (int i = 0; i < posts; i++) call(1, range(-999, 999) / pick(1, 10, 200));
-        if (random.nextInt(4) > 0) call(0, 1 + random.nextInt(Math.max(1, span)));
+        for (int i = 0; i < posts; i++) call(POST, range(-999, 999) / pick(1, 10, 200));
+        if (random.nextInt(4) > 0) call(GO, 1 + random.nextInt(Math.max(1, span)));
+        for (int i = 0; bed && i < posts; i++) {
+            call(BASE, i, 0, -1100, 0);
+            call(BASE, i, 1, levels + 1100, 2 * (levels + 2200));
+        }
         while (fits && told.size() < CALLS) {
-            if (random.nextInt(40) == 0) tellStandard();
+            if (random.nextInt(standards) == 0) tellStandard();
+            else if (bed && random.nextInt(10) == 0) tellBed();
+            else if (random.nextInt(50) == 0) proveBed();
             else tellSomething();
         }
+    }
+
+    private void tellBed() {
+        int post = random.nextInt(posts);
+        int time = aTime();
+        int level = aLevel();
+        call(HEIGHT, post, time, 1, level);
+        int height = real.heightAt(post, time, real.count(0));
+        plain.heightAt(post, time, real.count(0));
+        if (height >= 1000000000) return;
+        int flow = Math.max(0, 2 * (height + 1100 + pick(0, 0, 7, -12, 60)));
+        call(MEASURE, post, time, Math.min(flow, 99999), random.nextInt(3));
+    }
+
+    private void proveBed() {
+        int post = random.nextInt(posts);
+        int set = real.breaks(post, 2);
+        plain.breaks(post, 2);
+        if (set < 0 && random.nextInt(4) > 0) return;
+        call(PUT, Math.max(-128, set) + pick(0, 0, 0, 0, 1));
+        for (int run = 0; run <= Integer.bitCount(set) && run < 9; run++) {
+            int shift = real.shift(post, run);
+            plain.shift(post, run);
+            call(PUT, Math.min(127, shift) + pick(0, 0, 0, 0, 0, 1));
+        }
+        if (random.nextInt(5) == 0) call(PUT, 0);
+        call(JUDGE, post);
     }
 
     private void tellStandard() {
@@ -80,9 +131,9 @@ public final class RandomRunsTest {
             long bytes = 0;
             int n = Math.min(8, text.length() - i);
             for (int j = n - 1; j >= 0; j--) bytes = bytes << 8 | text.charAt(i + j);
-            call(11, n, bytes);
+            call(FEED, n, bytes);
         }
-        call(12, purpose, day + pick(0, 0, 0, 0, 1, 2, -1));
+        call(STANDARD, purpose, day + pick(0, 0, 0, 0, 1, 2, -1));
     }
 
     private void spoil(StringBuilder text) {
@@ -164,6 +215,7 @@ public final class RandomRunsTest {
 
     private int aTime() {
         int now = real.count(0);
+        if (!times.isEmpty() && random.nextInt(3) > 0) return times.get(random.nextInt(times.size()));
         return random.nextInt(20) == 0 ? range(0, 9999) : random.nextInt(Math.min(now, span) + 1);
     }
 
@@ -226,30 +278,10 @@ public final class RandomRunsTest {
 
     private void call(int op, long... a) {
         if (!fits) return;
-        Object[] arguments = new Object[a.length];
-        StringBuilder line = new StringBuilder(NAMES[op]).append('(');
-        for (int i = 0; i < a.length; i++) {
-            boolean isLong = NAMES[op].equals("feed") && i == 1;
-            arguments[i] = isLong ? (Object) a[i] : (Object) (int) a[i];
-            line.append(i == 0 ? "" : ", ").append(arguments[i]);
-        }
-        int got = answer(real, op, arguments);
-        int want = answer(plain, op, arguments);
-        line.append(") answered ").append(got);
-        if (got != want) line.append(", due is ").append(want);
-        told.add(line.toString());
+        if (op == HEIGHT) times.add((int) Math.max(0, Math.min(9999, a[1])));
+        int got = Gauge.answer(real, NAMES[op], a);
+        int want = Gauge.answer(plain, NAMES[op], a);
         fits = got == want;
-    }
-
-    private static int answer(Object on, int op, Object[] arguments) {
-        try {
-            for (Method method : on.getClass().getDeclaredMethods()) {
-                boolean same = method.getName().equals(NAMES[op]) && !Modifier.isPrivate(method.getModifiers());
-                if (same) return (Integer) method.invoke(on, arguments);
-            }
-            throw new IllegalStateException(NAMES[op]);
-        } catch (ReflectiveOperationException e) {
-            throw new IllegalStateException(NAMES[op], e);
-        }
+        told.add(Gauge.told(NAMES[op], a) + " answered " + got + (fits ? "" : ", due is " + want));
     }
 }
