@@ -188,7 +188,7 @@ public final class PromisesTest {
             }
         }
         Gauge y = at("II, of several of a DAY", 0, 10);
-        y.due(0, "height", 0, 1, 0, 5).standard("r=5", 0, 0).due(1, "isStruck", 0, 10);
+        y.due(0, "height", 0, 1, 0, 5).due(0, "isStruck", 0, 10).standard("r=5", 0, 0).due(1, "isStruck", 0, 10);
         y.due(11, "go", 1).standard("r=6", 0, 0).due(0, "isStruck", 0, 11).due(1, "isStruck", 0, 10);
         y.due(0, "isStruck", 0, 9);
     }
@@ -200,7 +200,7 @@ public final class PromisesTest {
         x.due(113, "heightAt", 0, 4, 10).due(-4, "heightAt", 0, 6, 10);
         x.due(12, "go", 2).due(1, "strike", 2).due(103, "heightAt", 0, 4, 12).due(113, "heightAt", 0, 4, 11);
         x.due(1, "strike", 1).due(123, "heightAt", 0, 4, 12).due(1, "strike", 3).due(93, "heightAt", 0, 4, 12);
-        x.due(13, "go", 1).due(1, "moved", 0, 1, 4).due(101, "heightAt", 0, 4, 13).due(93, "heightAt", 0, 4, 12);
+        x.due(13, "go", 1).due(93, "heightAt", 0, 4, 13).due(1, "moved", 0, 1, 4).due(101, "heightAt", 0, 4, 13).due(93, "heightAt", 0, 4, 12);
         x.due(14, "go", 1).standard("r=100", 0, 0).refused(-5, "heightAt", 0, 4, 14).due(101, "heightAt", 0, 4, 13);
         x.refused(-5, "heightAt", 0, 6, 9).refused(-5, "heightAt", 0, 5, 14).due(4, "heightAt", 0, 6, 9999);
         x.refused(-1, "heightAt", 1, -1, 0).refused(-4, "heightAt", 0, -1, 10000).refused(-4, "heightAt", 0, 10000, -1);
@@ -228,6 +228,8 @@ public final class PromisesTest {
         Gauge x = at("promise 12, counts", 0, 10);
         x.due(0, "measure", 0, 5, 10, 0).due(0, "counts", 0, 10).due(11, "go", 1).due(0, "height", 0, 5, 0, 3);
         x.due(0, "counts", 0, 10).due(1, "counts", 0, 11).due(1, "counts", 0, 9999).due(1, "post", 0);
+        Gauge y = at("promise 12, a FLOW is known from NOW on", 0, 10);
+        y.due(0, "height", 0, 5, 0, 3).due(11, "go", 1).due(0, "measure", 0, 5, 10, 0).due(0, "counts", 0, 10).due(1, "counts", 0, 11);
         x.due(1, "measure", 1, 5, 10, 0).due(0, "counts", 1, 11).due(2, "measure", 0, 5, 1, 1).due(1, "counts", 2, 11);
         x.due(12, "go", 1).due(1, "drop", 0).due(0, "counts", 0, 12).due(1, "counts", 0, 11).due(1, "counts", 2, 12);
         x.due(13, "go", 1).due(1, "strike", 0).due(0, "counts", 2, 13).due(1, "counts", 2, 12).due(0, "counts", 2, 10);
@@ -585,6 +587,11 @@ public final class PromisesTest {
         x.refused(-3, "gap", 0, 10, 0).refused(-5, "gap", 0, 9, 0).refused(-5, "gap", 0, 21, 1).refused(-5, "gap", 0, 9999, 0);
         x.refused(-1, "gap", 2, -1, 4).refused(-2, "gap", 0, -1, 4).refused(-2, "gap", 0, 10000, -1);
         x.refused(-4, "gap", 0, -1, 0).refused(-6, "gap", 0, 10000, 0);
+        Gauge z = at("V, the first POST as a NEIGHBOUR", 0, 400);
+        z.due(1, "post", 0).due(-1, "beside", 1, 0).due(0, "height", 1, 1, 0, 0).due(1, "height", 1, 5, 0, 4);
+        z.due(2, "height", 0, 1, 0, 0).due(3, "height", 0, 5, 0, 40).due(2, "gap", 1, 3, 0).due(0, "gap", 1, 3, 3);
+        z.due(4, "height", 0, 3, 0, 27).due(9, "gap", 1, 3, 0).due(1, "gap", 1, 3, 3).due(0, "beside", 1, -1);
+        z.due(2, "gap", 1, 3, 0).due(0, "gap", 1, 3, 3);
         Gauge y = at("V, within 200 TIMES, cut toward 0", 0, 400);
         y.due(0, "height", 0, 1, 0, 10).due(1, "height", 0, 201, 0, 0).due(2, "height", 0, 400, 0, 0);
         y.due(10, "gap", 0, 2, 0).due(1, "gap", 0, 200, 0).due(1, "gap", 0, 200, 1).due(201, "gap", 0, 2, 2).due(0, "gap", 0, 300, 0);
@@ -607,6 +614,10 @@ public final class PromisesTest {
                 x.refused(-5, "gap", 0, 406, 0);
             }
         }
+        Gauge y = at("II, n and h with the first POST", 0, 10);
+        y.due(1, "post", 0).due(-1, "beside", 1, 0).due(0, "height", 1, 1, 0, 0).due(1, "height", 1, 5, 0, 4);
+        y.due(2, "height", 0, 3, 0, 7).standard("n=99&h=1", 1, 0).due(2, "gap", 1, 3, 0).due(3, "height", 0, 1, 0, 7);
+        y.due(4, "height", 0, 5, 0, 7).refused(-3, "gap", 1, 3, 0).standard("n=0&h=1", 1, 0).due(2, "gap", 1, 3, 0);
         Gauge x = gapped("II, n and h without a NEIGHBOUR, by the DAY of the TIME");
         x.standard("n=99&h=0", 1, 4).due(2, "height", 0, 380, 0, 1).due(3, "height", 0, 390, 0, 1).due(4, "height", 1, 389, 0, 1);
         x.due(1, "gap", 0, 388, 0).refused(-3, "gap", 0, 389, 0).due(110, "gap", 0, 11, 0).due(1, "gap", 0, 381, 0);
@@ -670,12 +681,13 @@ public final class PromisesTest {
         x.due(150, "next", 0).due(3, "height", 0, 4, 0, 250).due(250, "next", 0).due(4, "height", 0, 5, 0, 101);
         x.due(150, "next", 0).due(5, "height", 0, 6, 0, 300).due(6, "height", 0, 7, 0, 200).due(150, "next", 0);
         x.due(7, "height", 0, 8, 0, 299).due(250, "next", 0).due(8, "height", 0, 8, 1, 100).due(150, "next", 0);
-        x.due(1, "stretch", 0, 3).due(150, "next", 0);
+        x.due(1, "stretch", 0, 3).due(150, "next", 0).due(9999, "go", 9979).due(9, "height", 0, 9999, 0, 250);
+        x.due(250, "next", 0);
         x.refused(-1, "next", 1).refused(-1, "next", -1).due(1, "post", -3).refused(-5, "next", 1);
-        x.due(9, "height", 1, 1, 0, 0).due(3, "measure", 1, 1, 5, 0).refused(-5, "next", 1);
-        x.due(10, "height", 1, 2, 0, 3).due(4, "measure", 1, 2, 5, 0).due(-2, "next", 1);
-        x.due(11, "height", 1, 3, 0, 10).due(5, "measure", 1, 3, 5, 0).due(-2, "next", 1);
-        x.due(12, "height", 1, 4, 0, 1).due(13, "height", 1, 5, 0, 2).due(-2, "next", 1).due(14, "height", 1, 6, 0, 4).due(3, "next", 1);
+        x.due(10, "height", 1, 1, 0, 0).due(3, "measure", 1, 1, 5, 0).refused(-5, "next", 1);
+        x.due(11, "height", 1, 2, 0, 3).due(4, "measure", 1, 2, 5, 0).due(-2, "next", 1);
+        x.due(12, "height", 1, 3, 0, 10).due(5, "measure", 1, 3, 5, 0).due(-2, "next", 1);
+        x.due(13, "height", 1, 4, 0, 1).due(14, "height", 1, 5, 0, 2).due(-2, "next", 1).due(15, "height", 1, 6, 0, 4).due(3, "next", 1);
     }
 
     private static void publish() {

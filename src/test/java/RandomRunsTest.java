@@ -22,6 +22,8 @@ public final class RandomRunsTest {
     private static final int BASE = 20;
     private static final int PUT = 23;
     private static final int JUDGE = 24;
+    private static final int BESIDE = 25;
+    private static final int GAP = 26;
 
     private final Random random;
     private final RiverGauge real = new RiverGauge();
@@ -37,6 +39,7 @@ public final class RandomRunsTest {
     // With a bed, FLOWS are near the base of their POST, so that some SHIFTS go.
     private final boolean bed;
     private final int standards;
+    private String letters = "";
     private boolean fits = true;
 
     private RandomRunsTest(long seed) {
@@ -81,7 +84,7 @@ public final class RandomRunsTest {
 
     private void play() {
         for (int i = 0; i < posts; i++) call(POST, range(-999, 999) / pick(1, 10, 200));
-        if (random.nextInt(4) > 0) call(GO, 1 + random.nextInt(Math.max(1, span)));
+        if (random.nextInt(4) > 0) call(GO, 1 + random.nextInt(span));
         for (int i = 0; bed && i < posts; i++) {
             call(BASE, i, 0, -1100, 0);
             call(BASE, i, 1, levels + 1100, 2 * (levels + 2200));
@@ -90,6 +93,7 @@ public final class RandomRunsTest {
             if (random.nextInt(standards) == 0) tellStandard();
             else if (bed && random.nextInt(10) == 0) tellBed();
             else if (random.nextInt(50) == 0) proveBed();
+            else if (random.nextInt(40) == 0) tellGap();
             else tellSomething();
         }
     }
@@ -121,12 +125,28 @@ public final class RandomRunsTest {
         call(JUDGE, post);
     }
 
+    private void tellGap() {
+        int post = random.nextInt(posts);
+        int other = random.nextInt(posts);
+        int now = real.count(0);
+        int start = random.nextInt(Math.min(now, span) + 1);
+        int end = Math.min(now, start + pick(2, 10, 200));
+        int time = range(start, end);
+        call(BESIDE, post, other);
+        for (int at : new int[] {start, time, end}) {
+            if (at != time) call(HEIGHT, post, at, 1, aLevel());
+            if (random.nextInt(6) > 0) call(HEIGHT, other, at, 1, aLevel());
+        }
+        for (int what = 0; what < 4; what++) call(GAP, post, time, what);
+    }
+
     private void tellStandard() {
+        int purpose = random.nextInt(3);
+        letters = random.nextInt(3) == 0 ? "dmrkabghnfwxi" : new String[] {"dmrkab", "dmghn", "dmfwxi"}[purpose];
         StringBuilder text = new StringBuilder();
         ors(text, 0);
         if (random.nextInt(4) == 0) spoil(text);
         int day = real.count(0) / 96;
-        int purpose = random.nextInt(3);
         for (int i = 0; i < text.length(); i += 8) {
             long bytes = 0;
             int n = Math.min(8, text.length() - i);
@@ -185,7 +205,7 @@ public final class RandomRunsTest {
     }
 
     private void unit(StringBuilder text) {
-        if (random.nextBoolean()) text.append("dmrkabghnfwxi".charAt(random.nextInt(13)));
+        if (random.nextBoolean()) text.append(letters.charAt(random.nextInt(letters.length())));
         else text.append(random.nextInt(pick(2, 3, 100, 1000, 100000)));
     }
 
