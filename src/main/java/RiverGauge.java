@@ -744,27 +744,30 @@ public final class RiverGauge {
         }
 
         private boolean readTest(int depth) {
-            boolean not = isNext('!');
-            if (!not && !isNext('(')) return readComparison();
-            if (depth >= DEEPEST) return false;
-            at++;
-            if (not) {
-                if (!readTest(depth + 1)) return false;
-                step(STEP_NOT);
-                return true;
-            }
-            if (!readOrs(depth + 1) || !isNext(')')) return false;
-            at++;
-            return true;
-        }
-
-        private boolean readComparison() {
+            if (isNext('!')) return readNot(depth);
+            if (isNext('(')) return readGroup(depth);
             if (!readSum()) return false;
             int sign = isNext('<') ? STEP_LESS : isNext('=') ? STEP_SAME : isNext('>') ? STEP_MORE : 0;
             if (sign == 0) return false;
             at++;
             if (!readSum()) return false;
             step(sign);
+            return true;
+        }
+
+        private boolean readNot(int depth) {
+            if (depth >= DEEPEST) return false;
+            at++;
+            if (!readTest(depth + 1)) return false;
+            step(STEP_NOT);
+            return true;
+        }
+
+        private boolean readGroup(int depth) {
+            if (depth >= DEEPEST) return false;
+            at++;
+            if (!readOrs(depth + 1) || !isNext(')')) return false;
+            at++;
             return true;
         }
 
@@ -1151,7 +1154,7 @@ public final class RiverGauge {
             if (at < 0 || at >= view.many) return -1;
             int post = view.postOf(at);
             int time = view.timeOf(at);
-            drawAt(post, time);
+            draw(post, posts.stretchStart(post, time), posts.stretchEnd(post, time));
             int flow = curve.flowBy(view.level[at], posts.low[post]);
             if (flow < 0) return -1;
             flow = less(flow, covers.greatest(ICE, post, time, view.k));
