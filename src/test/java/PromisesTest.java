@@ -394,7 +394,7 @@ public final class PromisesTest {
         Gauge x = curve("promise 19, flowAt");
         x.due(50, "flowAt", 0, 0, 100).due(150, "flowAt", 0, 0, 200).due(450, "flowAt", 0, 0, 300);
         x.due(51, "flowAt", 0, 0, 101).due(153, "flowAt", 0, 0, 201).due(447, "flowAt", 0, 0, 299);
-        x.due(453, "flowAt", 0, 0, 301).due(299547, "flowAt", 0, 0, 99999);
+        x.due(453, "flowAt", 0, 0, 301).due(299547, "flowAt", 0, 0, 99999).due(450, "flowAt", 0, 9999, 300);
         x.due(49, "flowAt", 0, 0, 99).due(0, "flowAt", 0, 0, -2000).due(0, "flowAt", 0, 0, -9999).due(0, "flowAt", 0, 0, -1999);
         x.due(-2000, "low", 0, 90).due(45, "flowAt", 0, 0, 99).due(5, "flowAt", 0, 0, 91).due(0, "flowAt", 0, 0, 90);
         x.due(90, "low", 0, 100).due(50, "flowAt", 0, 0, 99).due(50, "flowAt", 0, 0, -9999);
@@ -512,6 +512,12 @@ public final class PromisesTest {
         // 600 lets 540 .. 660, so with 5 hundredths less it would not.
         z.due(4, "measure", 0, 1, 600, 10).due(40, "shift", 0, 0).due(1, "drop", 4);
         z.due(5, "measure", 0, 1, 409, 11).due(-47, "shift", 0, 0);
+        for (int shift = -50; shift <= 50; shift++) {
+            Gauge each = at("IV, each SHIFT, here " + shift, 0, 50);
+            each.due(1, "base", 0, 0, 0, 0).due(2, "base", 0, 1, 1000, 1000).due(0, "height", 0, 1, 0, 500);
+            each.due(0, "measure", 0, 1, 500 + shift, 0).due(shift, "shift", 0, 0);
+            each.due(1, "put", 0).due(2, "put", shift).due(-9, "judge", 0).due(1, "put", 0).due(2, "put", shift + 1).due(1, "judge", 0);
+        }
         Gauge w = at("IV, a lowest POINT at -2000, whatever LOW is", -999, 50);
         w.due(1, "base", 0, 0, 0, 2000).due(0, "height", 0, 1, 0, 0).due(0, "measure", 0, 1, 1000, 0).due(-1, "shift", 0, 0);
         w.due(-2000, "low", 0, -500).due(-1, "shift", 0, 0);
