@@ -259,9 +259,9 @@ public final class TermsTest {
     }
 
     private static void deepTexts() {
-        String[] stand = {"!!!!!1=2", "(((((1=1)))))", "!(!(!1=2))", "((!!(1=1)))", "!!!!!1=2&!!!!!1=2", "(((((1=1)))))|(((((1=1)))))",
-            "((((!1=2))))&((((!1=2))))", "!!!!(1=1|1=1&!2=3)"};
-        // Five "!" turn what holds, three too, four do not.
+        String[] stand = {"!!!!!1=2", "(((((1=1)))))", "!(!(!1=2))", "((!!(1=1)))", "!!!!!1=2&!!!!!1=2",
+            "(((((1=1)))))|(((((1=1)))))", "((((!1=2))))&((((!1=2))))", "!!!!(1=1|1=1&!2=3)"};
+        // The last one has a sixth in it, at 13.
         int[] holds = {1, 1, 1, 1, 1, 1, 1, -1};
         for (int i = 0; i < stand.length; i++) {
             Gauge x = Scenes.at("II: 5 deep at most, together: " + stand[i], 0, 1).feed(stand[i]);
@@ -1004,6 +1004,15 @@ public final class TermsTest {
         y.due(19, "height", 1, 190, 1, 1000).due(20, "height", 1, 130, 1, 309);
         agrees(y, 100, 190, 1, 3, 1);
         agrees(y, 130, 190, 1, 2, 1);
+        Gauge z = two("VI: the greatest FLOWS, 21 of them");
+        // POST 0 has 99999999 each time, POST 1 has 1 at first, then 0: LAG 0 has the 1, no other has.
+        z.due(4, "measure", 0, 1, 0, 0).due(4, "height", 0, 2, 1, 1).due(5, "measure", 0, 2, 99999, 0).due(1, "drop", 1);
+        for (int i = 0; i < 21; i++) {
+            z.due(5 + 2 * i, "height", 0, 100 + i, 0, 9999).due(6 + 2 * i, "height", 1, 100 + i, 0, i == 0 ? 1 : 0);
+        }
+        z.due(99999999, "flowOf", 0, 100, 9999, 0).due(1, "flowOf", 1, 100, 9999, 0);
+        agrees(z, 100, 120, 0, 2099999978, 21);
+        agrees(z, 101, 120, 0, 99999999, 1);
     }
 
     private static void next() {
