@@ -1,3 +1,12 @@
+import com.sun.source.tree.CompilationUnitTree;
+import com.sun.source.tree.MethodInvocationTree;
+import com.sun.source.tree.MethodTree;
+import com.sun.source.tree.NewArrayTree;
+import com.sun.source.tree.NewClassTree;
+import com.sun.source.util.JavacTask;
+import com.sun.source.util.TreePath;
+import com.sun.source.util.TreePathScanner;
+import com.sun.source.util.Trees;
 import java.io.IOException;
 import java.lang.reflect.Constructor;
 import java.lang.reflect.Field;
@@ -7,10 +16,17 @@ import java.nio.charset.StandardCharsets;
 import java.nio.file.Files;
 import java.nio.file.Path;
 import java.util.Arrays;
+import java.util.List;
+import java.util.Map;
 import java.util.Set;
+import java.util.TreeMap;
 import java.util.TreeSet;
 import java.util.regex.Matcher;
 import java.util.regex.Pattern;
+import javax.lang.model.element.Element;
+import javax.tools.JavaCompiler;
+import javax.tools.StandardJavaFileManager;
+import javax.tools.ToolProvider;
 
 /** The face is the document's, and the file keeps to those rules of LANGUAGE.md that a plain look can tell. */
 public final class LanguageTest {
@@ -26,6 +42,9 @@ public final class LanguageTest {
         "\\bassert\\b", "->", "::", "\\bimport\\b", "\\bpackage\\b", "Exact\\b", "\\bdouble\\b", "\\bfloat\\b",
         "\\bvar\\b", "\\bObject\\b", "\\bMath\\.(random|sqrt|pow)\\b", "System\\.(?!arraycopy\\b)", "\\bstatic\\s*\\{",
         "\\bprotected\\b", "[^\\x00-\\x7f]"};
+    // What rule 4 lets, as far as the class uses it.
+    private static final Set<String> LIBRARY = Set.of("Integer.bitCount", "Math.abs", "Math.floorDiv", "Math.max",
+        "Math.min", "String.indexOf", "System.arraycopy", "Object.<init>");
     private static int wrong = 0;
 
     public static void main(String[] args) throws IOException {
@@ -34,6 +53,7 @@ public final class LanguageTest {
         String source = Files.readString(SOURCE, StandardCharsets.ISO_8859_1);
         words(source);
         methods(source);
+        calls();
         System.out.println(wrong == 0 ? "the language is as due" : wrong + " rules are broken");
         if (wrong != 0) System.exit(1);
     }
@@ -103,6 +123,74 @@ public final class LanguageTest {
                 from = -1;
             }
             check(lines[i].length() <= 130, "a long line: " + (i + 1));
+        }
+    }
+
+    /** Which method calls which, as the compiler sees it: how deep they go, what of the library, what they make. */
+    private static void calls() throws IOException {
+        JavaCompiler compiler = ToolProvider.getSystemJavaCompiler();
+        Map<String, Set<String>> calls = new TreeMap<>();
+        try (StandardJavaFileManager files = compiler.getStandardFileManager(null, null, null)) {
+            JavacTask task = (JavacTask) compiler.getTask(null, files, null, List.of("-proc:none"), null,
+                files.getJavaFileObjects(SOURCE));
+            Iterable<? extends CompilationUnitTree> units = task.parse();
+            task.analyze();
+            for (CompilationUnitTree unit : units) new Calls(Trees.instance(task), calls).scan(unit, null);
+        }
+        check(calls.size() > FACE.length, "no calls were found");
+        for (Set<String> called : calls.values()) {
+            for (String name : called) check(calls.containsKey(name) || LIBRARY.contains(name), "rule 4: " + name);
+        }
+        for (String told : FACE) {
+            String name = "RiverGauge." + told.split(" ")[0];
+            int deep = deep(name, calls, new TreeSet<>());
+            check(deep <= 8, "rule 11: " + name + " goes " + deep + " deep");
+        }
+    }
+
+    // A method that is open already is recursion, and is not gone into again.
+    private static int deep(String name, Map<String, Set<String>> calls, Set<String> open) {
+        if (!calls.containsKey(name) || !open.add(name)) return 0;
+        int most = 0;
+        for (String called : calls.get(name)) most = Math.max(most, deep(called, calls, open));
+        open.remove(name);
+        return most + 1;
+    }
+
+    /** Gathers the calls of each method; only constructors may make something. */
+    private static final class Calls extends TreePathScanner<Void, String> {
+        private final Trees trees;
+        private final Map<String, Set<String>> calls;
+
+        Calls(Trees trees, Map<String, Set<String>> calls) {
+            this.trees = trees;
+            this.calls = calls;
+        }
+
+        private static String nameOf(Element method) {
+            return method.getEnclosingElement().getSimpleName() + "." + method.getSimpleName();
+        }
+
+        @Override public Void visitMethod(MethodTree method, String in) {
+            String name = nameOf(trees.getElement(getCurrentPath()));
+            calls.putIfAbsent(name, new TreeSet<>());
+            return super.visitMethod(method, name);
+        }
+
+        @Override public Void visitMethodInvocation(MethodInvocationTree call, String in) {
+            Element called = trees.getElement(new TreePath(getCurrentPath(), call.getMethodSelect()));
+            if (in != null) calls.get(in).add(nameOf(called));
+            return super.visitMethodInvocation(call, in);
+        }
+
+        @Override public Void visitNewClass(NewClassTree made, String in) {
+            check(in == null || in.endsWith("<init>"), "an object is made in " + in);
+            return super.visitNewClass(made, in);
+        }
+
+        @Override public Void visitNewArray(NewArrayTree made, String in) {
+            check(in == null || in.endsWith("<init>"), "an array is made in " + in);
+            return super.visitNewArray(made, in);
         }
     }
 }
